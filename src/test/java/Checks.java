@@ -1,13 +1,19 @@
 /** Counts and prints the answers that are not as due. */
 final class Checks {
+    private String sentence = "";
     private int wrong;
     private int made;
+
+    /** The words of the document that the checks after this are about. */
+    void sentence(String words) {
+        sentence = words + " | ";
+    }
 
     void due(String call, long got, long want) {
         made++;
         if (got != want) {
             wrong++;
-            System.out.println(call + " answered " + got + ", due is " + want);
+            System.out.println(sentence + call + " answered " + got + ", due is " + want);
         }
     }
 
