@@ -197,7 +197,8 @@ public final class BoundariesTest {
         checks.due("0 before 2", Aligners.of("0", "00", 0, 0, 0, 0).column(0), 0);
         checks.due("1 before 2", Aligners.of("0", "0", -1, 0, 0, 0).column(0), 1);
         columnsAre("the last column is the first to differ", Aligners.of("33", "32", 0, -9, 0, 0), "012");
-        columnsAre("fewer columns do not come first", Aligners.of("01", "10", 1, -9, 0, 0), "102");
+        columnsAre("1 2 2 before 2 0", Aligners.of("0", "10", 0, -1, 0, 0), "122");
+        columnsAre("1 0 2 before 2 0 1", Aligners.of("01", "10", 1, -9, 0, 0), "102");
     }
 
     private static void partsMayBeEmpty() {
@@ -545,7 +546,7 @@ public final class BoundariesTest {
         checks.due("the fewest of full ones", Aligners.of(TEN, TEN).columns(), 10);
         checks.due("the most of full ones", Aligners.of(ZEROS, ONES, 0, -9, 0, 0).columns(), 20);
         checks.due("the first, not the longest", Aligners.of("0", "0", 0, 0, 0, 0).columns(), 1);
-        checks.due("the first, not the shortest", Aligners.of("0011", "1100", 1, -9, 0, 0).columns(), 6);
+        checks.due("the first, not the shortest", Aligners.of("0", "10", 0, -1, 0, 0).columns(), 3);
     }
 
     // Promise 9
